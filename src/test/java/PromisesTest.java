@@ -1,35 +1,10 @@
 import java.util.NoSuchElementException;
+import java.util.function.Supplier;
 
 /** For each promise of the document: ordinary inputs, the edges that it names, and wrong inputs. */
-public final class PromisesTest {
-    private static final int LIMIT = 200;
-    private static final int LEAST_INT = Integer.MIN_VALUE;
-    private static final int GREATEST_INT = Integer.MAX_VALUE;
-
-    private interface Call {
-        Object run();
-    }
-
-    private static String promise = "";
-    private static int wrong = 0;
-
-    private static void due(Object want, Call call) {
-        Object got;
-        try {
-            got = call.run();
-        } catch (RuntimeException e) {
-            got = e.getClass();
-        }
-        if (!want.equals(got)) {
-            wrong++;
-            StackTraceElement at = new Throwable().getStackTrace()[1];
-            System.out.println(promise + ", line " + at.getLineNumber() + ": answered " + got
-                    + ", due is " + want);
-        }
-    }
-
+public final class PromisesTest extends DueAnswers {
     /** The call throws the error, and counts and sums are the same afterwards. */
-    private static void dueRefusal(HeapAndDeque x, Class<?> error, Call call) {
+    private static void dueRefusal(HeapAndDeque x, Class<?> error, Supplier<Object> call) {
         int[] counts = {x.size(), x.sizePairs(), x.length()};
         long[] sums = {x.walk(), x.walkBack()};
         due(error, call);
@@ -40,83 +15,8 @@ public final class PromisesTest {
         due(sums[1], x::walkBack);
     }
 
-    private static HeapAndDeque withQueue(int... numbers) {
-        HeapAndDeque x = new HeapAndDeque();
-        for (int number : numbers) {
-            x.offer(number);
-        }
-        return x;
-    }
-
-    private static HeapAndDeque withPairs(int... keysAndTags) {
-        HeapAndDeque x = new HeapAndDeque();
-        for (int i = 0; i < keysAndTags.length; i += 2) {
-            x.offerPair(keysAndTags[i], keysAndTags[i + 1]);
-        }
-        return x;
-    }
-
-    private static HeapAndDeque withRow(int... numbers) {
-        HeapAndDeque x = new HeapAndDeque();
-        for (int number : numbers) {
-            x.addLast(number);
-        }
-        return x;
-    }
-
-    /** 0, 1, 2 .. count - 1, but mixed: 77 and each count used here have no common divisor. */
-    private static int[] mixed(int count) {
-        int[] numbers = new int[count];
-        for (int i = 0; i < count; i++) {
-            numbers[i] = i * 77 % count;
-        }
-        return numbers;
-    }
-
-    private static int[] upTo(int count) {
-        int[] numbers = new int[count];
-        for (int i = 0; i < count; i++) {
-            numbers[i] = i;
-        }
-        return numbers;
-    }
-
-    private static HeapAndDeque withFullPairs() {
-        HeapAndDeque x = new HeapAndDeque();
-        for (int number : mixed(LIMIT)) {
-            x.offerPair(number, number);
-        }
-        return x;
-    }
-
-    private static void dueQueue(HeapAndDeque x, int... numbers) {
-        due(numbers.length, x::size);
-        for (int number : numbers) {
-            due(number, x::poll);
-        }
-        due(NoSuchElementException.class, x::poll);
-    }
-
-    private static void duePairs(HeapAndDeque x, long... told) {
-        due(told.length, x::sizePairs);
-        for (long pair : told) {
-            due(pair, x::pollPair);
-        }
-        due(NoSuchElementException.class, x::pollPair);
-    }
-
-    /** One call a place, since what an object answers after its 512th call is free. */
-    private static void dueRow(HeapAndDeque x, int... numbers) {
-        due(numbers.length, x::length);
-        for (int i = 0; i < numbers.length; i++) {
-            int place = i;
-            due(numbers[place], () -> x.at(place));
-        }
-        due(IndexOutOfBoundsException.class, () -> x.at(numbers.length));
-    }
-
     private static void newObject() {
-        promise = "1 a new object";
+        asking("1 a new object");
         HeapAndDeque x = new HeapAndDeque();
         dueQueue(x);
         duePairs(x);
@@ -160,17 +60,17 @@ public final class PromisesTest {
     }
 
     private static void offer() {
-        promise = "2 offer";
+        asking("2 offer");
         putsIntoQueue(HeapAndDeque::offer);
     }
 
     private static void add() {
-        promise = "3 add";
+        asking("3 add");
         putsIntoQueue(HeapAndDeque::add);
     }
 
     private static void peek() {
-        promise = "4 peek";
+        asking("4 peek");
         HeapAndDeque x = new HeapAndDeque();
         dueRefusal(x, NoSuchElementException.class, x::peek);
         x.offer(6);
@@ -188,7 +88,7 @@ public final class PromisesTest {
     }
 
     private static void poll() {
-        promise = "5 poll";
+        asking("5 poll");
         HeapAndDeque x = withQueue(9, -9, GREATEST_INT, 3, LEAST_INT, 3);
         due(LEAST_INT, x::poll);
         due(5, x::size);
@@ -201,7 +101,7 @@ public final class PromisesTest {
     }
 
     private static void remove() {
-        promise = "6 remove";
+        asking("6 remove");
         HeapAndDeque x = withQueue(5, 1, 8, 5, LEAST_INT, GREATEST_INT);
         due(false, () -> x.remove(2));
         due(6, x::size);
@@ -230,7 +130,7 @@ public final class PromisesTest {
     }
 
     private static void contains() {
-        promise = "7 contains";
+        asking("7 contains");
         HeapAndDeque x = new HeapAndDeque();
         due(false, () -> x.contains(0));
         for (int number : new int[] {3, 1, 2, LEAST_INT, GREATEST_INT}) {
@@ -251,7 +151,7 @@ public final class PromisesTest {
     }
 
     private static void size() {
-        promise = "8 size";
+        asking("8 size");
         HeapAndDeque x = new HeapAndDeque();
         due(0, x::size);
         x.addLast(1);
@@ -268,7 +168,7 @@ public final class PromisesTest {
     }
 
     private static void clear() {
-        promise = "9 clear";
+        asking("9 clear");
         HeapAndDeque x = withQueue(1, 2, 2);
         x.addLast(8);
         x.offerPair(8, 8);
@@ -285,7 +185,7 @@ public final class PromisesTest {
     }
 
     private static void addAll() {
-        promise = "10 addAll";
+        asking("10 addAll");
         HeapAndDeque x = new HeapAndDeque();
         due(0, x::addAll);
         x.offer(4);
@@ -318,7 +218,7 @@ public final class PromisesTest {
     }
 
     private static void drain() {
-        promise = "11 drain";
+        asking("11 drain");
         HeapAndDeque x = withQueue(3, LEAST_INT, GREATEST_INT, 3, -1);
         x.addLast(50);
         x.addLast(-50);
@@ -348,7 +248,7 @@ public final class PromisesTest {
     }
 
     private static void offerPair() {
-        promise = "12 offerPair";
+        asking("12 offerPair");
         HeapAndDeque x = new HeapAndDeque();
         due(1, () -> x.offerPair(1, 0));
         due(2, () -> x.offerPair(1, 999));
@@ -379,7 +279,7 @@ public final class PromisesTest {
     }
 
     private static void peekPair() {
-        promise = "13 peekPair";
+        asking("13 peekPair");
         HeapAndDeque x = new HeapAndDeque();
         dueRefusal(x, NoSuchElementException.class, x::peekPair);
         x.offerPair(2, 3);
@@ -400,7 +300,7 @@ public final class PromisesTest {
     }
 
     private static void pollPair() {
-        promise = "14 pollPair";
+        asking("14 pollPair");
         HeapAndDeque x = withPairs(0, 0, 0, 1, -1, 999, -1, 998, GREATEST_INT, 999, 0, 1);
         due(-1L, x::pollPair);
         due(5, x::sizePairs);
@@ -414,7 +314,7 @@ public final class PromisesTest {
     }
 
     private static void removePair() {
-        promise = "15 removePair";
+        asking("15 removePair");
         HeapAndDeque x = withPairs(1, 5, 1, 6, 2, 5, 1, 5, LEAST_INT, 0, GREATEST_INT, 999);
         due(false, () -> x.removePair(1, 7));
         due(false, () -> x.removePair(3, 5));
@@ -445,7 +345,7 @@ public final class PromisesTest {
     }
 
     private static void containsPair() {
-        promise = "16 containsPair";
+        asking("16 containsPair");
         HeapAndDeque x = new HeapAndDeque();
         due(false, () -> x.containsPair(0, 0));
         int[] keys = {5, -5, LEAST_INT, GREATEST_INT, 0};
@@ -469,7 +369,7 @@ public final class PromisesTest {
     }
 
     private static void sizePairs() {
-        promise = "17 sizePairs";
+        asking("17 sizePairs");
         HeapAndDeque x = new HeapAndDeque();
         due(0, x::sizePairs);
         x.offer(1);
@@ -486,7 +386,7 @@ public final class PromisesTest {
     }
 
     private static void clearPairs() {
-        promise = "18 clearPairs";
+        asking("18 clearPairs");
         HeapAndDeque x = withPairs(1, 1, 1, 1, 2, 2);
         x.offer(8);
         x.addLast(8);
@@ -503,7 +403,7 @@ public final class PromisesTest {
     }
 
     private static void drainPairs() {
-        promise = "19 drainPairs";
+        asking("19 drainPairs");
         HeapAndDeque x = withPairs(3, 0, LEAST_INT, 0, GREATEST_INT, 999, 3, 7, -1, 999,
                 LEAST_INT, 999, GREATEST_INT, 0);
         x.addLast(50);
@@ -556,12 +456,12 @@ public final class PromisesTest {
     }
 
     private static void addFirst() {
-        promise = "20 addFirst";
+        asking("20 addFirst");
         putsAtFirstEnd(HeapAndDeque::addFirst);
     }
 
     private static void addLast() {
-        promise = "21 addLast";
+        asking("21 addLast");
         HeapAndDeque x = new HeapAndDeque();
         due(1, () -> x.addLast(4));
         due(2, () -> x.addLast(LEAST_INT));
@@ -584,7 +484,7 @@ public final class PromisesTest {
     }
 
     private static void getFirst() {
-        promise = "22 getFirst";
+        asking("22 getFirst");
         HeapAndDeque x = withQueue(1);
         x.offerPair(1, 1);
         dueRefusal(x, NoSuchElementException.class, x::getFirst);
@@ -600,7 +500,7 @@ public final class PromisesTest {
     }
 
     private static void getLast() {
-        promise = "23 getLast";
+        asking("23 getLast");
         HeapAndDeque x = withQueue(1);
         x.offerPair(1, 1);
         dueRefusal(x, NoSuchElementException.class, x::getLast);
@@ -639,12 +539,12 @@ public final class PromisesTest {
     }
 
     private static void removeFirst() {
-        promise = "24 removeFirst";
+        asking("24 removeFirst");
         takesAtFirstEnd(HeapAndDeque::removeFirst);
     }
 
     private static void removeLast() {
-        promise = "25 removeLast";
+        asking("25 removeLast");
         HeapAndDeque x = withRow(4, 9, GREATEST_INT, 9);
         due(9, x::removeLast);
         dueRow(x, 4, 9, GREATEST_INT);
@@ -664,17 +564,17 @@ public final class PromisesTest {
     }
 
     private static void push() {
-        promise = "26 push";
+        asking("26 push");
         putsAtFirstEnd(HeapAndDeque::push);
     }
 
     private static void pop() {
-        promise = "27 pop";
+        asking("27 pop");
         takesAtFirstEnd(HeapAndDeque::pop);
     }
 
     private static void removeFirstOccurrence() {
-        promise = "28 removeFirstOccurrence";
+        asking("28 removeFirstOccurrence");
         HeapAndDeque x = withRow(1, 2, 3, 2, 4, 2);
         due(false, () -> x.removeFirstOccurrence(5));
         dueRow(x, 1, 2, 3, 2, 4, 2);
@@ -701,7 +601,7 @@ public final class PromisesTest {
     }
 
     private static void removeLastOccurrence() {
-        promise = "29 removeLastOccurrence";
+        asking("29 removeLastOccurrence");
         HeapAndDeque x = withRow(2, 1, 2, 3, 2, 4);
         due(false, () -> x.removeLastOccurrence(5));
         dueRow(x, 2, 1, 2, 3, 2, 4);
@@ -728,7 +628,7 @@ public final class PromisesTest {
     }
 
     private static void has() {
-        promise = "30 has";
+        asking("30 has");
         HeapAndDeque x = withQueue(2);
         due(false, () -> x.has(2));
         due(false, () -> x.has(0));
@@ -749,7 +649,7 @@ public final class PromisesTest {
     }
 
     private static void length() {
-        promise = "31 length";
+        asking("31 length");
         HeapAndDeque x = withQueue(1);
         x.offerPair(1, 1);
         due(0, x::length);
@@ -764,7 +664,7 @@ public final class PromisesTest {
     }
 
     private static void wipe() {
-        promise = "32 wipe";
+        asking("32 wipe");
         HeapAndDeque x = withRow(1, 2, 2);
         x.offer(8);
         x.offerPair(8, 8);
@@ -789,7 +689,7 @@ public final class PromisesTest {
     }
 
     private static void at() {
-        promise = "33 at";
+        asking("33 at");
         HeapAndDeque x = new HeapAndDeque();
         duePlaceErrors(x, 0, 1, -1, 199, 200, LEAST_INT, GREATEST_INT);
         x.addLast(10);
@@ -806,7 +706,7 @@ public final class PromisesTest {
     }
 
     private static void back() {
-        promise = "34 back";
+        asking("34 back");
         HeapAndDeque x = withRow(10, LEAST_INT);
         x.addFirst(GREATEST_INT);
         due(LEAST_INT, () -> x.back(0));
@@ -821,7 +721,7 @@ public final class PromisesTest {
     }
 
     private static void dropLike() {
-        promise = "35 dropLike";
+        asking("35 dropLike");
         HeapAndDeque x = new HeapAndDeque();
         due(0, () -> x.dropLike(0));
         for (int number : new int[] {2, 2, 1, 2, 3, 3, 2, 2}) {
@@ -848,7 +748,7 @@ public final class PromisesTest {
     }
 
     private static void walk() {
-        promise = "36 walk";
+        asking("36 walk");
         HeapAndDeque x = new HeapAndDeque();
         due(7L, x::walk);
         x.addLast(5);
@@ -869,7 +769,7 @@ public final class PromisesTest {
     }
 
     private static void walkBack() {
-        promise = "37 walkBack";
+        asking("37 walkBack");
         HeapAndDeque x = new HeapAndDeque();
         due(7L, x::walkBack);
         x.addFirst(5);
@@ -940,9 +840,6 @@ public final class PromisesTest {
         queue();
         queueOfPairs();
         row();
-        System.out.println(wrong == 0 ? "all answers are as due" : wrong + " are not as due");
-        if (wrong != 0) {
-            System.exit(1);
-        }
+        end("");
     }
 }
