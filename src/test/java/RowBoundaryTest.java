@@ -356,7 +356,7 @@ public final class RowBoundaryTest extends DueAnswers {
         dueRow(x);
     }
 
-    /** Promise 24, "Takes the number at the first end out.": out of a full row, till it is empty. */
+    /** Promise 24, "Takes the number at the first end out.": out of a full row, to the last. */
     static void removeFirstEmptiesAFullRow() {
         HeapAndDeque x = withFullRow();
         for (int number = 0; number < LIMIT; number++) {
@@ -418,7 +418,7 @@ public final class RowBoundaryTest extends DueAnswers {
         dueRow(x);
     }
 
-    /** Promise 25, "Takes the number at the last end out.": out of a full row, till it is empty. */
+    /** Promise 25, "Takes the number at the last end out.": out of a full row, to the last. */
     static void removeLastEmptiesAFullRow() {
         HeapAndDeque x = withFullRow();
         for (int number = LIMIT - 1; number >= 0; number--) {
