@@ -665,6 +665,12 @@ public final class PairsBoundaryTest extends DueAnswers {
         due(0, x::clearPairs);
     }
 
+    /** Promise 18, "Returns how many there were.": a single one. */
+    static void clearPairsAnswers1OfOne() {
+        HeapAndDeque x = withPairs(6, 7);
+        due(1, x::clearPairs);
+    }
+
     /** Promise 18, "Returns how many there were.": 200, and none when it is called once more. */
     static void clearPairsAnswers200OfFullPairs() {
         HeapAndDeque x = withFullPairs();
@@ -752,6 +758,12 @@ public final class PairsBoundaryTest extends DueAnswers {
     static void drainPairsAnswers0OfNone() {
         HeapAndDeque x = withRow(8, 2);
         due(0, x::drainPairs);
+    }
+
+    /** Promise 19, "Returns how many they were.": a single one. */
+    static void drainPairsAnswers1OfOne() {
+        HeapAndDeque x = withPairs(6, 7);
+        due(1, x::drainPairs);
     }
 
     /** Promise 19, "Returns how many they were.": 200. */

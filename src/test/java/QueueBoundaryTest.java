@@ -649,6 +649,12 @@ public final class QueueBoundaryTest extends DueAnswers {
         due(0, x::clear);
     }
 
+    /** Promise 9, "Returns how many it held.": one with a single number. */
+    static void clearAnswers1OfAQueueOfOne() {
+        HeapAndDeque x = withQueue(6);
+        due(1, x::clear);
+    }
+
     /** Promise 9, "Returns how many it held.": a full one, and the same one once more. */
     static void clearAnswers200OfAFullQueue() {
         HeapAndDeque x = withFullQueue();
@@ -712,6 +718,18 @@ public final class QueueBoundaryTest extends DueAnswers {
     static void addAllAnswers0OfAnEmptyRowAndQueue() {
         HeapAndDeque x = new HeapAndDeque();
         due(0, x::addAll);
+    }
+
+    /** Promise 10, "Returns how many the queue holds then.": a row of one, an empty queue. */
+    static void addAllAnswers1OfARowOfOneAndAnEmptyQueue() {
+        HeapAndDeque x = withRow(6);
+        due(1, x::addAll);
+    }
+
+    /** Promise 10, "Returns how many the queue holds then.": an empty row, a queue of one. */
+    static void addAllAnswers1OfAnEmptyRowAndAQueueOfOne() {
+        HeapAndDeque x = withQueue(6);
+        due(1, x::addAll);
     }
 
     /** Promise 10, "Returns how many the queue holds then.": an empty row, a full queue. */
@@ -843,6 +861,12 @@ public final class QueueBoundaryTest extends DueAnswers {
     static void drainAnswers0OfAnEmptyQueue() {
         HeapAndDeque x = withRow(8, 2);
         due(0, x::drain);
+    }
+
+    /** Promise 11, "Returns how many they were.": the queue holds a single number. */
+    static void drainAnswers1OfAQueueOfOne() {
+        HeapAndDeque x = withQueue(6);
+        due(1, x::drain);
     }
 
     /** Promise 11, "Returns how many they were.": the queue is full. */

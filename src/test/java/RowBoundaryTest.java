@@ -1011,6 +1011,12 @@ public final class RowBoundaryTest extends DueAnswers {
         due(0, x::wipe);
     }
 
+    /** Promise 32, "Returns how many it held.": one with a single number. */
+    static void wipeAnswers1OfARowOfOne() {
+        HeapAndDeque x = withRow(6);
+        due(1, x::wipe);
+    }
+
     /** Promise 32, "Returns how many it held.": a full one, and the same one once more. */
     static void wipeAnswers200OfAFullRow() {
         HeapAndDeque x = withFullRow();
@@ -1368,6 +1374,12 @@ public final class RowBoundaryTest extends DueAnswers {
     static void dropLikeAnswers0OfAnEmptyRow() {
         HeapAndDeque x = new HeapAndDeque();
         due(0, () -> x.dropLike(0));
+    }
+
+    /** Promise 35, "Returns how many they were.": the only number of the row. */
+    static void dropLikeAnswers1OfARowOfOne() {
+        HeapAndDeque x = withRow(6);
+        due(1, () -> x.dropLike(6));
     }
 
     /** Promise 35, "Returns how many they were.": the row is full, and has none such. */
