@@ -5,13 +5,14 @@ import java.util.Iterator;
 import java.util.List;
 import java.util.NoSuchElementException;
 import java.util.PriorityQueue;
+import java.util.TreeSet;
 
 /**
  * Long runs of calls, each answered by HeapAndDeque and by the library's PriorityQueue and
- * ArrayDeque. The runs are the same each time.
+ * ArrayDeque. The runs are the same each time, and meet each exception of the document's face.
  */
 public final class LibraryTest {
-    private static final int RUNS = 3000;
+    private static final int RUNS = 4000;
     private static final int CALLS = 512;
     private static final int LIMIT = 200;
 
@@ -32,6 +33,25 @@ public final class LibraryTest {
     private static final String[] EMPTYING = {
         "clear", "drain", "clearPairs", "drainPairs", "wipe", "addAll",
     };
+
+    /** Each call with each exception that the document tells of it. */
+    private static final String[] REFUSALS = {
+        "offer throws.IllegalStateException", "add throws.IllegalStateException",
+        "peek throws.NoSuchElementException", "poll throws.NoSuchElementException",
+        "addAll throws.IllegalStateException", "drain throws.IllegalStateException",
+        "offerPair throws.IllegalArgumentException", "offerPair throws.IllegalStateException",
+        "peekPair throws.NoSuchElementException", "pollPair throws.NoSuchElementException",
+        "removePair throws.IllegalArgumentException",
+        "containsPair throws.IllegalArgumentException",
+        "drainPairs throws.IllegalStateException",
+        "addFirst throws.IllegalStateException", "addLast throws.IllegalStateException",
+        "getFirst throws.NoSuchElementException", "getLast throws.NoSuchElementException",
+        "removeFirst throws.NoSuchElementException", "removeLast throws.NoSuchElementException",
+        "push throws.IllegalStateException", "pop throws.NoSuchElementException",
+        "at throws.IndexOutOfBoundsException", "back throws.IndexOutOfBoundsException",
+    };
+
+    private static final TreeSet<String> met = new TreeSet<>();
 
     private record Pair(int key, int tag) {
         long told() {
@@ -276,13 +296,19 @@ public final class LibraryTest {
             return false;
         }
 
-        /** Mood 0 takes all calls alike; 1 fills; 2 fills and seldom empties at a blow. */
+        /**
+         * Mood 0 takes all calls alike; 1 fills; 2 fills and seldom empties at a blow; 3 fills
+         * the queue of pairs, which the other moods never bring to its limit.
+         */
         String name(int mood) {
+            if (mood == 3 && below(4) != 0) {
+                return "offerPair";
+            }
             if (mood > 0 && below(2) == 0) {
                 return FILLING[below(FILLING.length)];
             }
             String name = NAMES[below(NAMES.length)];
-            boolean spared = mood == 2 && among(name, EMPTYING) && below(8) != 0;
+            boolean spared = mood >= 2 && among(name, EMPTYING) && below(8) != 0;
             return spared ? "walk" : name;
         }
 
@@ -310,8 +336,8 @@ public final class LibraryTest {
         Chooser chooser = new Chooser(run);
         HeapAndDeque x = new HeapAndDeque();
         Library library = new Library();
-        int mood = run % 3;
-        int spread = run % 2 == 0 ? 3 : 1000;
+        int mood = run % 4;
+        int spread = run / 4 % 2 == 0 ? 3 : 1000;
         List<String> calls = new ArrayList<>();
         for (int i = 0; i < CALLS; i++) {
             String name = chooser.name(mood);
@@ -325,8 +351,21 @@ public final class LibraryTest {
                 calls.forEach(System.out::println);
                 return false;
             }
+            if (got.startsWith("throws.")) {
+                met.add(name + " " + got);
+            }
         }
         return true;
+    }
+
+    /** Runs that never meet a refusal would say nothing of it, and still hold. */
+    private static boolean allRefusalsAreMet() {
+        TreeSet<String> missed = new TreeSet<>(List.of(REFUSALS));
+        missed.removeAll(met);
+        if (!missed.isEmpty()) {
+            System.out.println("no run meets " + missed);
+        }
+        return missed.isEmpty();
     }
 
     public static void main(String[] args) {
@@ -334,6 +373,9 @@ public final class LibraryTest {
             if (!runHolds(run)) {
                 System.exit(1);
             }
+        }
+        if (!allRefusalsAreMet()) {
+            System.exit(1);
         }
         System.out.println(RUNS + " runs are answered as the library answers");
     }
